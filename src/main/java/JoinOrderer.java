@@ -99,7 +99,7 @@ public final class JoinOrderer {
         if (!isSet(set)) {
             return BAD_ARG;
         }
-        fillCostsToGo(set);
+        fillLinearCosts(set);
         return costs[0];
     }
 
@@ -108,7 +108,7 @@ public final class JoinOrderer {
             return BAD_ARG;
         }
         for (int s = 1; s <= set; s++) {
-            costs[s] = isOneTable(s) ? 0 : leastLinkedCost(s);
+            costs[s] = needsNoJoin(s) ? 0 : leastLinkedCost(s);
         }
         return costs[set];
     }
@@ -118,7 +118,7 @@ public final class JoinOrderer {
             return BAD_ARG;
         }
         for (int s = 1; s <= set; s++) {
-            costs[s] = isOneTable(s) ? 0 : greatestCost(s);
+            costs[s] = needsNoJoin(s) ? 0 : greatestCost(s);
         }
         return costs[set];
     }
@@ -127,7 +127,7 @@ public final class JoinOrderer {
         if (!isSet(set)) {
             return BAD_ARG;
         }
-        if (isOneTable(set)) {
+        if (needsNoJoin(set)) {
             return NONE;
         }
         fillLeastCosts(set);
@@ -147,7 +147,7 @@ public final class JoinOrderer {
         if (k < 0 || k >= TABLES) {
             return NONE;
         }
-        fillCostsToGo(set);
+        fillLinearCosts(set);
         int joined = 0;
         for (int place = 0; place < k; place++) {
             if (joined != set) {
@@ -177,7 +177,7 @@ public final class JoinOrderer {
         }
         fillLeastCosts(set);
         for (int s = 1; s <= set; s++) {
-            counts[s] = isOneTable(s) ? 1 : countCheapest(s);
+            counts[s] = needsNoJoin(s) ? 1 : countCheapest(s);
         }
         return counts[set];
     }
@@ -212,7 +212,8 @@ public final class JoinOrderer {
         return set >= 1 && set <= ALL_TABLES;
     }
 
-    private static boolean isOneTable(int set) {
+    // At most one table: the empty set counts too, as what is joined before the first table.
+    private static boolean needsNoJoin(int set) {
         return (set & (set - 1)) == 0;
     }
 
@@ -267,7 +268,7 @@ public final class JoinOrderer {
     // A part of a set is a smaller number than the set, so going upwards has every part ready.
     private void fillLeastCosts(int set) {
         for (int s = 1; s <= set; s++) {
-            costs[s] = isOneTable(s) ? 0 : leastCostOfParts(s) + sizeOf(s);
+            costs[s] = needsNoJoin(s) ? 0 : leastCostOfParts(s) + sizeOf(s);
         }
     }
 
@@ -303,14 +304,15 @@ public final class JoinOrderer {
         return greatest + sizeOf(set);
     }
 
-    // For each part of the set, joined already: the least cost of joining the rest to it one table
-    // at a time. From this end the first tables of an order can be chosen first.
-    private void fillCostsToGo(int set) {
-        costs[set] = 0;
+    // For each part of the set, as what is joined so far: its size and the least cost of joining the
+    // rest to it one table at a time. From this end the first tables of an order are chosen first.
+    private void fillLinearCosts(int set) {
+        costs[set] = needsNoJoin(set) ? 0 : sizeOf(set);
         for (int joined = set - 1; joined >= 0; joined--) {
             if (isPart(joined, set)) {
                 int next = nextTable(joined, set);
-                costs[joined] = costThrough(joined, next);
+                int rest = costs[joined | (1 << next)];
+                costs[joined] = needsNoJoin(joined) ? rest : rest + sizeOf(joined);
             }
         }
     }
@@ -320,25 +322,18 @@ public final class JoinOrderer {
         int next = 0;
         int least = ABOVE_ALL_COSTS;
         for (int i = 0; i < TABLES; i++) {
-            if (hasTable(set ^ joined, i)) {
-                int through = costThrough(joined, i);
-                if (through < least) {
-                    least = through;
-                    next = i;
-                }
+            int grown = joined | (1 << i);
+            if (hasTable(set ^ joined, i) && costs[grown] < least) {
+                least = costs[grown];
+                next = i;
             }
         }
         return next;
     }
 
-    private int costThrough(int joined, int i) {
-        int grown = joined | (1 << i);
-        return joined == 0 ? costs[grown] : costs[grown] + sizeOf(grown);
-    }
-
     private int countPlans(int set, boolean onlyLinked) {
         for (int s = 1; s <= set; s++) {
-            counts[s] = isOneTable(s) ? 1 : countPairs(s, onlyLinked);
+            counts[s] = needsNoJoin(s) ? 1 : countPairs(s, onlyLinked);
         }
         return counts[set];
     }
