@@ -2,12 +2,20 @@
 final class Due {
     private int looked = 0;
     private int wrong = 0;
+    private int sentences = 0;
+    private String sentence = "";
+
+    /** The answers looked at from here on are due by this sentence of the document. */
+    void by(String next) {
+        sentences++;
+        sentence = "[" + next + "] ";
+    }
 
     void same(String call, int got, int want) {
         looked++;
         if (got != want) {
             wrong++;
-            System.out.println(call + " answered " + got + ", due is " + want);
+            System.out.println(sentence + call + " answered " + got + ", due is " + want);
         }
     }
 
@@ -20,7 +28,8 @@ final class Due {
     }
 
     void end() {
-        System.out.println(looked + " answers looked at, " + wrong + " not as due");
+        String by = sentences == 0 ? "" : ", by " + sentences + " sentences";
+        System.out.println(looked + " answers looked at" + by + ", " + wrong + " not as due");
         if (wrong != 0) {
             System.exit(1);
         }

@@ -13,7 +13,7 @@ import java.util.List;
 import java.util.Set;
 import java.util.TreeSet;
 
-/** The public face is the document's and no more, and the rules of LANGUAGE.md that can be seen simply. */
+/** The public face is the document's and no more, by reflection, and the words that LANGUAGE.md rules out. */
 public final class LanguageTest {
     private static final List<String> FACE = List.of(
             "boolean connected(int)", "int cheapest(int)", "int cost(int)", "int filter(int, int, int)",

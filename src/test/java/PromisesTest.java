@@ -1,10 +1,9 @@
 /** Each promise of the document with answers worked out by hand: ordinary inputs, edges, wrong inputs. */
 public final class PromisesTest {
-    private static final int BAD_ARG = -1;
-    private static final int NONE = -4;
-    private static final int[] WRONG_TABLES = {-1, 5, 6, Integer.MIN_VALUE, Integer.MAX_VALUE};
-    private static final int[] WRONG_EXPONENTS = {-1, 7, Integer.MIN_VALUE, Integer.MAX_VALUE};
-    private static final int[] WRONG_SETS = {0, -1, -31, 32, 33, 63, Integer.MIN_VALUE, Integer.MAX_VALUE};
+    private static final int BAD_ARG = Made.BAD_ARG;
+    private static final int NONE = Made.NONE;
+    private static final int[] WRONG_TABLES = Made.WRONG_TABLES;
+    private static final int[] WRONG_EXPONENTS = Made.WRONG_EXPONENTS;
 
     private static final Due due = new Due();
 
@@ -26,27 +25,7 @@ public final class PromisesTest {
         promise14LinkedPlans();
         promise15Cheapest();
         promise16Gain();
-        wrongSets();
         due.end();
-    }
-
-    private static JoinOrderer withTables(int a, int b, int c, int d, int e) {
-        JoinOrderer x = new JoinOrderer();
-        x.table(0, a);
-        x.table(1, b);
-        x.table(2, c);
-        x.table(3, d);
-        x.table(4, e);
-        return x;
-    }
-
-    /** Filters 0-1, 1-2, 2-3, 3-4, all of one strength. */
-    private static JoinOrderer chain(int strength) {
-        JoinOrderer x = new JoinOrderer();
-        for (int i = 0; i < 4; i++) {
-            x.filter(i, i + 1, strength);
-        }
-        return x;
     }
 
     private static void theConstants() {
@@ -150,7 +129,7 @@ public final class PromisesTest {
             due.same("4: the other filter stays", x.size(24), 16);
             due.same("4: new after unfilter", x.filter(1, 3, 6), 0);
         }
-        JoinOrderer x = chain(1);
+        JoinOrderer x = Made.chain(1);
         for (int i = 0; i < 5; i++) {
             due.same("4: i and j the same", x.unfilter(i, i), BAD_ARG);
             for (int wrong : WRONG_TABLES) {
@@ -163,7 +142,7 @@ public final class PromisesTest {
     }
 
     private static void promise5Size() {
-        JoinOrderer x = withTables(0, 1, 2, 3, 4);
+        JoinOrderer x = Made.tables(0, 1, 2, 3, 4);
         due.same("5: size(31)", x.size(31), 1024);
         due.same("5: size(21)", x.size(21), 64);
         x.filter(1, 2, 3);
@@ -180,11 +159,11 @@ public final class PromisesTest {
             }
         }
         due.same("5: s is -45", strong.size(31), 1);
-        due.same("5: the greatest size", withTables(6, 6, 6, 6, 6).size(31), 1 << 30);
+        due.same("5: the greatest size", Made.tables(6, 6, 6, 6, 6).size(31), 1 << 30);
     }
 
     private static void promise6Connected() {
-        JoinOrderer x = chain(0);
+        JoinOrderer x = Made.chain(0);
         for (int i = 0; i < 5; i++) {
             due.same("6: one table", x.connected(1 << i), true);
         }
@@ -207,7 +186,7 @@ public final class PromisesTest {
     }
 
     private static void promise7Cost() {
-        JoinOrderer x = withTables(6, 6, 6, 6, 6);
+        JoinOrderer x = Made.tables(6, 6, 6, 6, 6);
         for (int i = 0; i < 5; i++) {
             due.same("7: one table", x.cost(1 << i), 0);
         }
@@ -215,19 +194,19 @@ public final class PromisesTest {
         due.same("7: three tables", x.cost(7), (1 << 18) + (1 << 12));
         due.same("7: two pairs", x.cost(15), (1 << 24) + 2 * (1 << 12));
         due.same("7: the greatest", x.cost(31), (1 << 30) + (1 << 18) + 2 * (1 << 12));
-        JoinOrderer y = withTables(1, 2, 3, 3, 3);
+        JoinOrderer y = Made.tables(1, 2, 3, 3, 3);
         due.same("7: the smallest first", y.cost(7), 64 + 8);
         y.filter(1, 2, 4);
         due.same("7: the filter first", y.cost(7), 4 + 2);
     }
 
     private static void promise8LinearCost() {
-        JoinOrderer x = withTables(6, 6, 6, 6, 6);
+        JoinOrderer x = Made.tables(6, 6, 6, 6, 6);
         due.same("8: one table", x.linearCost(8), 0);
         due.same("8: two tables", x.linearCost(20), 4096);
         due.same("8: no two pairs", x.linearCost(15), (1 << 24) + (1 << 18) + (1 << 12));
         due.same("8: the greatest", x.linearCost(31), (1 << 30) + (1 << 24) + (1 << 18) + (1 << 12));
-        JoinOrderer y = withTables(4, 1, 2, 0, 3);
+        JoinOrderer y = Made.tables(4, 1, 2, 0, 3);
         due.same("8: the smallest first", y.linearCost(31), 2 + 8 + 64 + 1024);
         due.same("8: three of them", y.linearCost(21), 32 + 512);
     }
@@ -240,7 +219,7 @@ public final class PromisesTest {
         due.same("9: strength 0", x.linkedCost(3), 64);
         due.same("9: one linked pair of three", x.linkedCost(7), NONE);
         // A star around table 0, which is large: every linked plan starts with it.
-        JoinOrderer y = withTables(6, 0, 0, 3, 3);
+        JoinOrderer y = Made.tables(6, 0, 0, 3, 3);
         y.filter(0, 1, 0);
         y.filter(0, 2, 0);
         due.same("9: dearer than without links", y.linkedCost(7), 64 + 64);
@@ -254,16 +233,16 @@ public final class PromisesTest {
     }
 
     private static void promise10Worst() {
-        JoinOrderer x = withTables(6, 6, 6, 6, 6);
+        JoinOrderer x = Made.tables(6, 6, 6, 6, 6);
         due.same("10: one table", x.worst(16), 0);
         due.same("10: two tables", x.worst(17), 4096);
         due.same("10: the greatest", x.worst(31), (1 << 30) + (1 << 24) + (1 << 18) + (1 << 12));
-        JoinOrderer y = withTables(1, 2, 3, 4, 0);
+        JoinOrderer y = Made.tables(1, 2, 3, 4, 0);
         due.same("10: the largest first", y.worst(7), 64 + 32);
         y.filter(1, 2, 5);
         due.same("10: the filter last", y.worst(7), 2 + 16);
         // Two pairs without filters inside, strong filters between them: the worst is not linear.
-        JoinOrderer z = withTables(6, 6, 6, 6, 0);
+        JoinOrderer z = Made.tables(6, 6, 6, 6, 0);
         z.filter(0, 2, 6);
         z.filter(0, 3, 6);
         z.filter(1, 2, 6);
@@ -292,9 +271,9 @@ public final class PromisesTest {
         order(x, "12: all alike", 31, 0, 1, 2, 3, 4);
         order(x, "12: some of them", 26, 1, 3, 4);
         order(x, "12: one table", 8, 3);
-        order(withTables(4, 3, 2, 1, 0), "12: the smallest first, the first two in either order", 31, 3, 4, 2, 1, 0);
+        order(Made.tables(4, 3, 2, 1, 0), "12: the smallest first, the first two in either order", 31, 3, 4, 2, 1, 0);
         // 2-3 must come first; then 0 and 1 are alike.
-        JoinOrderer y = withTables(3, 3, 3, 3, 6);
+        JoinOrderer y = Made.tables(3, 3, 3, 3, 6);
         y.filter(2, 3, 6);
         order(y, "12: a filter first", 31, 2, 3, 0, 1, 4);
         // 0-3 and 1-2 are as good a start: the dictionary looks at the first table first.
@@ -319,7 +298,7 @@ public final class PromisesTest {
 
     private static void promise13Plans() {
         int[] byTables = {0, 1, 2, 12, 120, 1680};
-        JoinOrderer x = chain(2);
+        JoinOrderer x = Made.chain(2);
         for (int set = 1; set <= 31; set++) {
             due.same("13: plans(" + set + ")", x.plans(set), byTables[Integer.bitCount(set)]);
         }
@@ -329,7 +308,7 @@ public final class PromisesTest {
         JoinOrderer x = new JoinOrderer();
         due.same("14: one table", x.linkedPlans(2), 1);
         due.same("14: no filter", x.linkedPlans(3), 0);
-        x = chain(0);
+        x = Made.chain(0);
         due.same("14: a chain of two", x.linkedPlans(6), 2);
         due.same("14: a chain of three", x.linkedPlans(7), 8);
         due.same("14: a chain of four", x.linkedPlans(15), 40);
@@ -350,9 +329,9 @@ public final class PromisesTest {
         due.same("15: three alike", x.cheapest(7), 12);
         due.same("15: four alike, two pairs", x.cheapest(15), 24);
         due.same("15: five alike", x.cheapest(31), 480);
-        JoinOrderer y = withTables(0, 1, 2, 3, 4);
+        JoinOrderer y = Made.tables(0, 1, 2, 3, 4);
         due.same("15: one pair is the best", y.cheapest(7), 4);
-        JoinOrderer z = withTables(0, 0, 0, 0, 0);
+        JoinOrderer z = Made.tables(0, 0, 0, 0, 0);
         due.same("15: every plan", z.cheapest(31), 1680);
     }
 
@@ -377,25 +356,7 @@ public final class PromisesTest {
             }
         }
         due.same("16: after refusals", x.cost(31), 585);
-        due.same("16: the greatest tables", withTables(6, 6, 6, 6, 6).gain(2, 4),
+        due.same("16: the greatest tables", Made.tables(6, 6, 6, 6, 6).gain(2, 4),
                 (1 << 30) + (1 << 18) + 2 * (1 << 12) - (1 << 24) - (1 << 12) * 2 - (1 << 6));
-    }
-
-    private static void wrongSets() {
-        JoinOrderer x = chain(1);
-        for (int set : WRONG_SETS) {
-            due.same("size(" + set + ")", x.size(set), BAD_ARG);
-            due.same("connected(" + set + ")", x.connected(set), false);
-            due.same("cost(" + set + ")", x.cost(set), BAD_ARG);
-            due.same("linearCost(" + set + ")", x.linearCost(set), BAD_ARG);
-            due.same("linkedCost(" + set + ")", x.linkedCost(set), BAD_ARG);
-            due.same("worst(" + set + ")", x.worst(set), BAD_ARG);
-            due.same("left(" + set + ")", x.left(set), BAD_ARG);
-            due.same("linearTable(" + set + ", 0)", x.linearTable(set, 0), BAD_ARG);
-            due.same("linearTable(" + set + ", 9)", x.linearTable(set, 9), BAD_ARG);
-            due.same("plans(" + set + ")", x.plans(set), BAD_ARG);
-            due.same("linkedPlans(" + set + ")", x.linkedPlans(set), BAD_ARG);
-            due.same("cheapest(" + set + ")", x.cheapest(set), BAD_ARG);
-        }
     }
 }
