@@ -55,6 +55,8 @@ public final class RefusalsTest {
             RefusalsTest::someOfEach);
 
     public static void main(String[] args) {
+        // First, since a call that throws would end any of the others.
+        neverThrows();
         setsBeforeAnythingElse();
         table();
         filter();
@@ -64,7 +66,6 @@ public final class RefusalsTest {
         connected();
         noSuchPlan();
         askingLeavesNoTrace();
-        neverThrows();
         due.end();
     }
 
