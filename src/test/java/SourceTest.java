@@ -1,3 +1,4 @@
+import com.sun.source.tree.ArrayAccessTree;
 import com.sun.source.tree.AssignmentTree;
 import com.sun.source.tree.BinaryTree;
 import com.sun.source.tree.BlockTree;
@@ -35,8 +36,8 @@ import javax.tools.ToolProvider;
 
 /**
  * The rules of LANGUAGE.md that are about the text of the class, looked at in its syntax tree. Where
- * a rule leaves more than this class uses (while loops, arrays made in the constructor), this test
- * asks for what the class does, so that it stays simple.
+ * a rule leaves more than this class uses (while loops, casts, arrays made in the constructor or handed
+ * to a method), this test asks for what the class does, so that it stays simple.
  */
 public final class SourceTest {
     private static final String FILE = "src/main/java/JoinOrderer.java";
@@ -46,7 +47,7 @@ public final class SourceTest {
             Tree.Kind.MEMBER_REFERENCE, Tree.Kind.NEW_CLASS, Tree.Kind.NULL_LITERAL, Tree.Kind.STRING_LITERAL,
             Tree.Kind.FLOAT_LITERAL, Tree.Kind.DOUBLE_LITERAL, Tree.Kind.MEMBER_SELECT, Tree.Kind.ANNOTATION,
             Tree.Kind.WHILE_LOOP, Tree.Kind.DO_WHILE_LOOP, Tree.Kind.ENHANCED_FOR_LOOP, Tree.Kind.DIVIDE,
-            Tree.Kind.REMAINDER, Tree.Kind.DIVIDE_ASSIGNMENT, Tree.Kind.REMAINDER_ASSIGNMENT);
+            Tree.Kind.REMAINDER, Tree.Kind.DIVIDE_ASSIGNMENT, Tree.Kind.REMAINDER_ASSIGNMENT, Tree.Kind.TYPE_CAST);
 
     private static final Due due = new Due();
 
@@ -79,6 +80,7 @@ public final class SourceTest {
         onlyTheLanguageLeft();
         typesArePlain();
         arraysAreMadeOnce();
+        arraysAreOnlyIndexed();
         staticFieldsAreConstants();
         loopsEnd();
         callsAreNotNested();
@@ -156,6 +158,40 @@ public final class SourceTest {
         }
     }
 
+    /** So none is answered, compared, handed on, or named by a variable that changes in a loop. */
+    private void arraysAreOnlyIndexed() {
+        due.by("4. An array is never answered, never compared");
+        Set<String> arrays = new HashSet<>();
+        for (VariableTree field : fields) {
+            if (isArray(field)) {
+                arrays.add(field.getName().toString());
+            }
+        }
+        new TreeScanner<Void, Void>() {
+            @Override
+            public Void visitVariable(VariableTree variable, Void none) {
+                due.same(variable + " is an array, no field", isArray(variable) && !fields.contains(variable), false);
+                return super.visitVariable(variable, none);
+            }
+
+            @Override
+            public Void visitArrayAccess(ArrayAccessTree access, Void none) {
+                due.same(access + " is of a field", arrays.contains(access.getExpression().toString()), true);
+                return scan(access.getIndex(), none);
+            }
+
+            @Override
+            public Void visitIdentifier(IdentifierTree name, Void none) {
+                due.same(name + " without index in line " + line(name), arrays.contains(name.toString()), false);
+                return null;
+            }
+        }.scan(program, null);
+    }
+
+    private static boolean isArray(VariableTree variable) {
+        return variable.getType().getKind() == Tree.Kind.ARRAY_TYPE;
+    }
+
     private static int countNewArrays(Tree tree) {
         int[] count = {0};
         new TreeScanner<Void, Void>() {
@@ -169,8 +205,8 @@ public final class SourceTest {
     }
 
     private boolean isConstant(ExpressionTree length) {
-        if (length instanceof LiteralTree) {
-            return true;
+        if (length instanceof LiteralTree literal) {
+            return literal.getValue() instanceof Integer number && number >= 1;
         }
         return fields.stream().anyMatch(f -> isStatic(f) && f.getName().contentEquals(length.toString()));
     }
